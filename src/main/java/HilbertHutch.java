@@ -451,6 +451,7 @@ public final class HilbertHutch {
     /**
      * The nodes of all levels. On each level the entries stand from left to right as the boxes and
      * the nodes below do, so that it is enough to keep how many entries each node has, its load.
+     * The bounds below are never met; what tests them only keeps the machine from throwing.
      */
     private static final class Tree {
         /** Only the last node of a level can have one entry, so 60 boxes never need more than 6. */

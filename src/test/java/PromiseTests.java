@@ -444,7 +444,7 @@ public final class PromiseTests {
             due("cover(0, " + index + ", 0)", INDEX, () -> hutch.cover(0, index, 0));
         }
         due("cover(0, 1, 0)", INDEX, () -> hutch.cover(0, 1, 0));
-        HilbertHutch row = Checks.packedWithBoxes(0);
+        HilbertHutch row = new HilbertHutch();
         for (int i = 0; i < 17; i++) {
             row.add(0, 10 * i, 3, 10 * i + 5);
         }
