@@ -31,6 +31,11 @@ final class Checks {
         }
     }
 
+    void fault(String text) {
+        wrong++;
+        System.out.println(part + ": " + text);
+    }
+
     boolean allRight() {
         return wrong == 0;
     }
