@@ -1,4 +1,5 @@
 import java.util.ArrayList;
+import java.util.Arrays;
 import java.util.List;
 
 /** What the tests share: comparing answers, points by their keys, and the shape of a tree as a text. */
@@ -98,6 +99,21 @@ final class Checks {
             text.append(level == 0 ? "" : "/");
             for (int node = 0; node < hutch.nodes(level); node++) {
                 text.append(node == 0 ? "" : " ").append(hutch.entries(level, node));
+            }
+        }
+        return text.toString();
+    }
+
+    /** The covers from left to right, the leaves first and the root last. */
+    static String covers(HilbertHutch hutch) {
+        StringBuilder text = new StringBuilder();
+        for (int level = 0; level < hutch.levels(); level++) {
+            for (int node = 0; node < hutch.nodes(level); node++) {
+                int[] sides = new int[4];
+                for (int side = 0; side < 4; side++) {
+                    sides[side] = hutch.cover(level, node, side);
+                }
+                text.append(Arrays.toString(sides));
             }
         }
         return text.toString();

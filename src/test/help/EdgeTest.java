@@ -1,7 +1,9 @@
 import java.lang.reflect.InvocationTargetException;
 import java.lang.reflect.Method;
+import java.util.ArrayList;
 import java.util.Arrays;
 import java.util.Comparator;
+import java.util.List;
 
 /**
  * What the tests of boundary cases share. Each such test is a static method without parameters whose
@@ -60,11 +62,12 @@ abstract class EdgeTest {
         CHECKS.due("the shape", want, () -> Checks.shape(hutch));
     }
 
-    /** The tree has this shape, its boxes come in their order, and each is told to be in its leaf. */
+    /** The tree has this shape, its boxes come in their order, and the leaves and the covers are as follows from both. */
     static void dueTree(String want, Planted tree) {
         dueShape(want, tree.made());
         due("the order", tree.numbers(), () -> Checks.order(tree.made()));
         due("the leaves of all boxes", leavesOf(want), tree::leaves);
+        due("the covers of all nodes", coversOf(want, tree), () -> Checks.covers(tree.made()));
     }
 
     /** The leaf of each box in the order, as it follows from a shape. */
@@ -77,5 +80,37 @@ abstract class EdgeTest {
             }
         }
         return text.toString();
+    }
+
+    /** The covers as Checks.covers tells them, as they follow from a shape and from the points of the boxes. */
+    private static String coversOf(String shape, Planted tree) {
+        List<int[]> below = new ArrayList<>();
+        for (int place = 0; place < tree.size(); place++) {
+            int[] point = Checks.pointAt(tree.keyAt(place));
+            below.add(new int[] {point[0], point[1], point[0], point[1]});
+        }
+        StringBuilder text = new StringBuilder();
+        for (String level : shape.split("/")) {
+            List<int[]> covers = new ArrayList<>();
+            int first = 0;
+            for (int load : Planted.numbersIn(level)) {
+                covers.add(around(below.subList(first, first + load)));
+                text.append(Arrays.toString(covers.get(covers.size() - 1)));
+                first += load;
+            }
+            below = covers;
+        }
+        return text.toString();
+    }
+
+    private static int[] around(List<int[]> boxes) {
+        int[] cover = boxes.get(0).clone();
+        for (int[] box : boxes) {
+            cover[0] = Math.min(cover[0], box[0]);
+            cover[1] = Math.min(cover[1], box[1]);
+            cover[2] = Math.max(cover[2], box[2]);
+            cover[3] = Math.max(cover[3], box[3]);
+        }
+        return cover;
     }
 }

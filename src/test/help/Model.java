@@ -1,4 +1,5 @@
 import java.util.ArrayList;
+import java.util.Arrays;
 import java.util.Comparator;
 import java.util.List;
 
@@ -370,6 +371,29 @@ final class Model {
         }
         pairs.sort(Comparator.naturalOrder());
         return pairs;
+    }
+
+    // ---- the whole tree as texts, as Checks has them of an object
+
+    String shape() {
+        StringBuilder text = new StringBuilder();
+        for (List<Node> row : rows()) {
+            text.append(text.length() == 0 ? "" : "/");
+            for (Node node : row) {
+                text.append(node == row.get(0) ? "" : " ").append(node.size());
+            }
+        }
+        return text.toString();
+    }
+
+    String covers() {
+        StringBuilder text = new StringBuilder();
+        for (List<Node> row : rows()) {
+            for (Node node : row) {
+                text.append(Arrays.toString(node.cover()));
+            }
+        }
+        return text.toString();
     }
 
     // ---- what the calls share

@@ -6,8 +6,9 @@ import java.util.List;
  * are put to new objects that have been through the same changes, as each serves 512 calls only.
  */
 final class Planted {
+    /** What an object or the model can be put through. */
     private interface Change {
-        int on(HilbertHutch hutch);
+        int on(HilbertHutch hutch, Model model);
     }
 
     private static final int MOST = 4;
@@ -63,18 +64,38 @@ final class Planted {
     HilbertHutch made() {
         HilbertHutch made = new HilbertHutch();
         for (Change change : changes) {
-            change.on(made);
+            change.on(made, null);
         }
         return made;
     }
 
+    /** The model of the same tree. */
+    Model model() {
+        Model model = new Model();
+        for (Change change : changes) {
+            change.on(null, model);
+        }
+        return model;
+    }
+
+    Planted copy() {
+        Planted copy = new Planted();
+        for (Change change : changes) {
+            copy.change(change);
+        }
+        copy.keys.addAll(keys);
+        copy.numbers.addAll(numbers);
+        copy.added = added;
+        return copy;
+    }
+
     private int change(Change change) {
         changes.add(change);
-        return change.on(hutch);
+        return change.on(hutch, null);
     }
 
     int pack() {
-        return change(HilbertHutch::pack);
+        return change((made, model) -> made != null ? made.pack() : model.pack());
     }
 
     int addKey(int key) {
@@ -86,17 +107,18 @@ final class Planted {
         numbers.add(place, added);
         added++;
         int[] point = Checks.pointAt(key);
-        return change(made -> made.add(point[0], point[1], point[0], point[1]));
+        return change((made, model) -> made != null ? made.add(point[0], point[1], point[0], point[1])
+                : model.add(point[0], point[1], point[0], point[1]));
     }
 
     /** Adds a box that gets this place in the order. */
     void addAt(int place) {
-        int low = place == 0 ? 0 : keys.get(place - 1);
-        int high = place == keys.size() ? Math.min(65535, low + 2) : keys.get(place);
+        int low = place == 0 ? -1 : keys.get(place - 1);
+        int high = place == keys.size() ? 65536 : keys.get(place);
         if (high - low < 2) {
             throw new AssertionError("there is no key between " + low + " and " + high);
         }
-        addKey(place == 0 ? high - 1 : (low + high) / 2);
+        addKey((low + high) / 2);
     }
 
     /** Adds a box to a leaf, between two of its boxes where there is most room, or in front of its only one. */
@@ -120,7 +142,7 @@ final class Planted {
     int removeAt(int place) {
         keys.remove(place);
         int number = numbers.remove(place);
-        return change(made -> made.remove(number));
+        return change((made, model) -> made != null ? made.remove(number) : model.remove(number));
     }
 
     /** Removes the second box of a leaf if it has more than two, or else its first one. */

@@ -212,6 +212,33 @@ public final class AddingEdges extends EdgeTest {
         dueAfterAddingKey(65535, "4 4/2", "3 3 3/3");
     }
 
+    static void promise2_theNextBoxGoesByTheBoxesThatALeafHasBehindSharing() {
+        Planted right = Planted.of("4 2/2");
+        right.addTo(0);
+        dueTree("4 3/2", right);
+        right.addKey(right.keyAt(3) + 1);
+        dueTree("4 4/2", right);
+        Planted left = Planted.of("2 4/2");
+        left.addTo(1);
+        dueTree("4 3/2", left);
+        left.addKey(left.keyAt(3) + 1);
+        dueTree("4 4/2", left);
+        left.removeAt(0);
+        left.addKey(left.keyAt(2) - 1);
+        dueTree("4 4/2", left);
+    }
+
+    static void promise2_theNextBoxGoesByTheBoxesThatALeafHasBehindADivision() {
+        Planted tree = Planted.of("4 4/2");
+        tree.addTo(0);
+        tree.addKey(tree.keyAt(2) - 1);
+        dueTree("4 3 3/3", tree);
+        tree.addKey(tree.keyAt(3) + 1);
+        dueTree("4 4 3/3", tree);
+        tree.addKey(tree.keyAt(7) + 1);
+        dueTree("4 4 4/3", tree);
+    }
+
     // ---- which one is the partner
 
     static void promise2_theRightLeafGoesBeforeTheLeftOne() {
@@ -294,6 +321,17 @@ public final class AddingEdges extends EdgeTest {
 
     static void promise2_aFullNodeAndAFullRightOneMakeThree() {
         dueAfterAddingTo(0, "4 4 2 2 2 2 2 2/4 4/2", "3 3 3 2 2 2 2 2 2/3 3 3/3");
+    }
+
+    static void promise2_theNextBoxGoesByTheBoxesThatANodeHasBehindSharing() {
+        // The second node gives its last two leaves to the third one; then it ends with the place 11.
+        Planted tree = Planted.of("2 2 2 4 4 2 2/2 4 1/3");
+        tree.addTo(3);
+        dueTree("2 2 2 3 3 3 2 2/2 3 3/3", tree);
+        tree.addKey(tree.keyAt(11) + 1);
+        dueTree("2 2 2 3 3 4 2 2/2 3 3/3", tree);
+        tree.addKey(tree.keyAt(11) - 1);
+        dueTree("2 2 2 3 4 4 2 2/2 3 3/3", tree);
     }
 
     // ---- higher nodes with a partner to the left

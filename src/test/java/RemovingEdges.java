@@ -87,6 +87,34 @@ public final class RemovingEdges extends EdgeTest {
         dueTree("2 4/2", tree);
     }
 
+    static void promise3_theNextBoxGoesToTheNodeWhoseLastBoxIsLeft() {
+        Planted tree = Planted.of("2 3 2 2/2 2/2");
+        int last = tree.keyAt(4);
+        tree.removeAt(4);
+        tree.addKey(last - 1);
+        dueTree("2 2 3 2/2 2/2", tree);
+    }
+
+    static void promise3_theNextBoxGoesToALeafThatHasGotMoreToTheRight() {
+        // The first leaf gets two boxes of the second one, and with them the keys up to theirs.
+        Planted tree = Planted.of("2 4 2/3");
+        tree.removeAt(0);
+        tree.addKey(tree.keyAt(2) - 1);
+        dueTree("4 2 2/3", tree);
+        tree.addKey(tree.keyAt(3) + 1);
+        dueTree("4 3 2/3", tree);
+    }
+
+    static void promise3_theNextBoxGoesToALeafThatHasGivenABoxToTheRight() {
+        Planted tree = Planted.of("4 2/2");
+        tree.removeAt(5);
+        dueTree("3 2/2", tree);
+        tree.addKey(tree.keyAt(2) + 1);
+        dueTree("3 3/2", tree);
+        tree.addKey(tree.keyAt(2) - 1);
+        dueTree("4 3/2", tree);
+    }
+
     // ---- a leaf that is too small, with a partner to the right
 
     static void promise3_aLeafOfOneAndARightOneOfOneBecomeOne() {
