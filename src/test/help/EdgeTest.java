@@ -62,7 +62,7 @@ abstract class EdgeTest {
         CHECKS.due("the shape", want, () -> Checks.shape(hutch));
     }
 
-    /** The tree has this shape, its boxes come in their order, and the leaves and the covers are as follows from both. */
+    /** The tree has this shape, its boxes come in their order, and leaves and covers are as follows from both. */
     static void dueTree(String want, Planted tree) {
         dueShape(want, tree.made());
         due("the order", tree.numbers(), () -> Checks.order(tree.made()));

@@ -19,7 +19,7 @@ public final class AddingEdges extends EdgeTest {
         dueTree(want, tree);
     }
 
-    /** A tree of four levels, in which these leaves and their next ones are then made into three, one behind the other. */
+    /** A tree of four levels; then each of these leaves and its next one are made into three, in this order. */
     private static Planted fourLevels(int... leaves) {
         Planted tree = Planted.of("4 4 2 2 2 2 2 2 2 2 2 2 2 2 2/4 4 4 3/4");
         tree.addTo(0);

@@ -384,16 +384,15 @@ public final class RemovingEdges extends EdgeTest {
 
     static void promise3_fromFourLevelsToNoneAndUpAgain() {
         Planted tree = fourLevels();
-        int levels = 4;
+        StringBuilder levels = new StringBuilder();
         for (int boxes = tree.size(); boxes > 0; boxes--) {
             due("remove()", boxes - 1, () -> tree.removeAt(0));
-            int now = tree.made().levels();
-            if (now > levels || now < levels - 1) {
-                due("levels() with " + (boxes - 1) + " boxes", levels + " or one less", () -> now);
-            }
-            levels = now;
+            dueTree(tree.model().shape(), tree);
+            levels.append(tree.made().levels());
         }
-        dueTree("", tree);
+        // Three levels from 23 boxes down, two from 9 down, and one from 3 down.
+        due("levels() behind each removal", "4".repeat(11) + "3".repeat(14) + "2".repeat(6) + "1".repeat(3) + "0",
+                () -> levels);
         String[] shapes = {"1", "2", "3", "4", "3 2/2", "3 3/2"};
         for (int i = 0; i < shapes.length; i++) {
             tree.addKey(100 * i);

@@ -505,6 +505,16 @@ public final class TreeEdges extends EdgeTest {
         due("boxAt(2)", 1, () -> hutch.boxAt(2));
     }
 
+    static void promise14_equalKeysInTheOrderOfTheNumbers() {
+        HilbertHutch hutch = new HilbertHutch();
+        Checks.addKeys(hutch, 7, 7, 6, 8, 7, 6);
+        int[] order = {2, 5, 0, 1, 4, 3};
+        for (int i = 0; i < order.length; i++) {
+            int place = i;
+            due("boxAt(" + place + ")", order[i], () -> hutch.boxAt(place));
+        }
+    }
+
     static void promise14_aPlaceBelow0IsRefused() {
         HilbertHutch hutch = Checks.withBoxes(60);
         for (int place : BELOW_0) {
